@@ -24,6 +24,7 @@ public final class NetSearch {
     private static final int[] FIRST_RIGHT = {2, 4, 4, 0, 0, 2};
     private static final int[] FIRST_UP = {4, 2, 0, 4, 2, 0};
 
+    // Right, up, left, down: side ^ 2 is the opposite one, side ^ 1 one of the two beside it.
     private static final int[] SIDE_X = {1, 0, -1, 0};
     private static final int[] SIDE_Y = {0, 1, 0, -1};
 
@@ -138,8 +139,8 @@ public final class NetSearch {
         switch (what) {
             case 0: return hand.x[f];
             case 1: return hand.y[f];
-            case 2: return hand.right[f];
-            case 3: return hand.up[f];
+            case 2: return hand.heading(f, 0);
+            case 3: return hand.heading(f, 1);
             default: return NOWHERE;
         }
     }
@@ -231,17 +232,21 @@ public final class NetSearch {
     }
 
     private static int least(int[] row, int length) {
-        int found = Integer.MAX_VALUE;
-        for (int i = 0; i < length; i++) {
-            found = Math.min(found, row[i]);
+        int found = row[0];
+        for (int i = 1; i < length; i++) {
+            if (row[i] < found) {
+                found = row[i];
+            }
         }
         return found;
     }
 
     private static int most(int[] row, int length) {
-        int found = Integer.MIN_VALUE;
-        for (int i = 0; i < length; i++) {
-            found = Math.max(found, row[i]);
+        int found = row[0];
+        for (int i = 1; i < length; i++) {
+            if (row[i] > found) {
+                found = row[i];
+            }
         }
         return found;
     }
@@ -351,13 +356,11 @@ public final class NetSearch {
     }
 
     /**
-     * Counts trees as a determinant (Kirchhoff). It is reckoned modulo two primes, since whole
-     * numbers on the way to it could outgrow a long; the answer is far below the primes' product.
+     * Counts trees as a determinant (Kirchhoff). It is reckoned modulo 2^64, where a row whose head
+     * has the fewest factors of two clears the heads of the others without a rest; so numbers may
+     * wrap around on the way, and the answer, far below 2^63, is whole.
      */
     private static final class TreeCounter {
-        private static final long PRIME = 1000000007L;
-        private static final long OTHER_PRIME = 998244353L;
-        private static final int PRIME_BITS = 30;
         private static final int WIDTH = MOST_FACES - 1;
 
         private final Solid solid;
@@ -368,60 +371,48 @@ public final class NetSearch {
         }
 
         long count() {
-            long one = countModulo(PRIME);
-            long other = countModulo(OTHER_PRIME);
-            long apart = Math.floorMod(other - one, OTHER_PRIME);
-            return one + PRIME * (apart * inverse(PRIME % OTHER_PRIME, OTHER_PRIME) % OTHER_PRIME);
-        }
-
-        private long countModulo(long prime) {
             // The last face's row and column are left out, as the theorem asks.
             int n = solid.faces - 1;
-            fillMatrix(n, prime);
+            fillMatrix(n);
             long product = 1;
             for (int i = 0; i < n; i++) {
                 int pivot = findPivot(i, n);
-                if (pivot < 0) {
-                    return 0;
-                }
                 if (pivot != i) {
                     swapRows(pivot, i, n);
-                    product = prime - product;
+                    product = -product;
                 }
-                long head = matrix[i * WIDTH + i];
-                product = product * head % prime;
-                clearBelow(i, n, inverse(head, prime), prime);
+                product *= matrix[i * WIDTH + i];
+                clearBelow(i, n);
             }
             return product;
         }
 
-        private void fillMatrix(int n, long prime) {
+        private void fillMatrix(int n) {
+            Arrays.fill(matrix, 0L);
             for (int i = 0; i < n; i++) {
-                for (int j = 0; j < n; j++) {
-                    matrix[i * WIDTH + j] = 0;
-                }
                 for (int e = 0; e < DIRECTIONS; e++) {
                     if (!sameAxis(e, solid.lookOf[i])) {
-                        addEdge(i, solid.beyond(i, e), n, prime);
+                        addEdge(i, solid.beyond(i, e), n);
                     }
                 }
             }
         }
 
-        private void addEdge(int i, int j, int n, long prime) {
-            matrix[i * WIDTH + i] = (matrix[i * WIDTH + i] + 1) % prime;
+        private void addEdge(int i, int j, int n) {
+            matrix[i * WIDTH + i]++;
             if (j < n) {
-                matrix[i * WIDTH + j] = (matrix[i * WIDTH + j] + prime - 1) % prime;
+                matrix[i * WIDTH + j]--;
             }
         }
 
         private int findPivot(int column, int n) {
-            for (int row = column; row < n; row++) {
-                if (matrix[row * WIDTH + column] != 0) {
-                    return row;
+            int found = column;
+            for (int row = column + 1; row < n; row++) {
+                if (twosIn(matrix[row * WIDTH + column]) < twosIn(matrix[found * WIDTH + column])) {
+                    found = row;
                 }
             }
-            return -1;
+            return found;
         }
 
         private void swapRows(int one, int other, int n) {
@@ -432,27 +423,29 @@ public final class NetSearch {
             }
         }
 
-        private void clearBelow(int i, int n, long headInverse, long prime) {
+        private void clearBelow(int i, int n) {
+            long head = matrix[i * WIDTH + i];
+            int twos = twosIn(head);
+            long inverse = inverseOfOdd(head >> twos);
             for (int row = i + 1; row < n; row++) {
-                long factor = matrix[row * WIDTH + i] * headInverse % prime;
+                long factor = (matrix[row * WIDTH + i] >> twos) * inverse;
                 for (int j = i; j < n && factor != 0; j++) {
-                    long taken = factor * matrix[i * WIDTH + j] % prime;
-                    matrix[row * WIDTH + j] = (matrix[row * WIDTH + j] + prime - taken) % prime;
+                    matrix[row * WIDTH + j] -= factor * matrix[i * WIDTH + j];
                 }
             }
         }
 
-        /** By Fermat: the power prime - 2. */
-        private static long inverse(long number, long prime) {
-            long power = number;
-            long product = 1;
-            for (int bit = 0; bit < PRIME_BITS; bit++) {
-                if (((prime - 2) >> bit & 1) != 0) {
-                    product = product * power % prime;
-                }
-                power = power * power % prime;
+        private static int twosIn(long number) {
+            return Long.numberOfTrailingZeros(number);
+        }
+
+        /** An odd number is its own inverse in three bits, and each round doubles the bits: 96 at the end. */
+        private static long inverseOfOdd(long odd) {
+            long inverse = odd;
+            for (int round = 0; round < 5; round++) {
+                inverse *= 2 - odd * inverse;
             }
-            return product;
+            return inverse;
         }
     }
 
@@ -464,10 +457,10 @@ public final class NetSearch {
         final boolean[] lies = new boolean[MOST_FACES];
         final int[] x = new int[MOST_FACES];
         final int[] y = new int[MOST_FACES];
-        final int[] right = new int[MOST_FACES];
-        final int[] up = new int[MOST_FACES];
         int count;
         private final Solid solid;
+        // The direction of each side of each face: RIGHT, UP and their opposites.
+        private final int[] headings = new int[MOST_FACES * SIDES];
         // A bit for each place, so that the search need not look through the faces.
         private final long[] taken = new long[2 * MIDDLE + 1];
 
@@ -484,15 +477,15 @@ public final class NetSearch {
         }
 
         void putFirst(int f) {
-            right[f] = FIRST_RIGHT[solid.lookOf[f]];
-            up[f] = FIRST_UP[solid.lookOf[f]];
+            setHeading(f, 0, FIRST_RIGHT[solid.lookOf[f]]);
+            setHeading(f, 1, FIRST_UP[solid.lookOf[f]]);
             putAt(f, 0, 0);
         }
 
         void putBeside(int f, int side) {
             int other = neighbour(f, side);
-            right[other] = rightBeside(f, side);
-            up[other] = upBeside(f, side);
+            setHeading(other, side, onward(f, side));
+            setHeading(other, side ^ 1, heading(f, side ^ 1));
             putAt(other, x[f] + SIDE_X[side], y[f] + SIDE_Y[side]);
         }
 
@@ -500,6 +493,10 @@ public final class NetSearch {
             lies[f] = false;
             taken[MIDDLE + y[f]] &= ~placeBit(x[f]);
             count--;
+        }
+
+        int heading(int f, int side) {
+            return headings[f * SIDES + side];
         }
 
         int neighbour(int f, int side) {
@@ -517,7 +514,8 @@ public final class NetSearch {
             int other = neighbour(f, side);
             return lies[other]
                     && x[other] == x[f] + SIDE_X[side] && y[other] == y[f] + SIDE_Y[side]
-                    && right[other] == rightBeside(f, side) && up[other] == upBeside(f, side);
+                    && heading(other, side) == onward(f, side)
+                    && heading(other, side ^ 1) == heading(f, side ^ 1);
         }
 
         int faceAt(int px, int py) {
@@ -537,34 +535,17 @@ public final class NetSearch {
             count++;
         }
 
-        private int heading(int f, int side) {
-            int along = isLevel(side) ? right[f] : up[f];
-            return isForward(side) ? along : opposite(along);
+        private int onward(int f, int side) {
+            return solid.onward(f, heading(f, side));
         }
 
-        private int rightBeside(int f, int side) {
-            return isLevel(side) ? turned(f, side) : right[f];
-        }
-
-        private int upBeside(int f, int side) {
-            return isLevel(side) ? up[f] : turned(f, side);
-        }
-
-        private int turned(int f, int side) {
-            int leadsOn = solid.onward(f, heading(f, side));
-            return isForward(side) ? leadsOn : opposite(leadsOn);
+        private void setHeading(int f, int side, int direction) {
+            headings[f * SIDES + side] = direction;
+            headings[f * SIDES + (side ^ 2)] = opposite(direction);
         }
 
         private static long placeBit(int px) {
             return 1L << (MIDDLE + px);
-        }
-
-        private static boolean isLevel(int side) {
-            return (side & 1) == 0;
-        }
-
-        private static boolean isForward(int side) {
-            return side < 2;
         }
     }
 
@@ -851,43 +832,42 @@ public final class NetSearch {
         }
 
         private boolean canFold(int first, int m) {
-            for (int k = 0; k < solid.faces; k++) {
-                faceOn[k] = -1;
+            beginAt(first);
+            for (int step = 0; step < solid.faces * SIDES; step++) {
+                int next = step / SIDES;
+                if (next >= reachedCount || !canFoldOver(reached[next], step % SIDES, m)) {
+                    return false;
+                }
             }
+            return true;
+        }
+
+        private void beginAt(int first) {
+            Arrays.fill(faceOn, -1);
             sheet.wipe();
             sheet.putFirst(first);
             faceOn[0] = first;
             reached[0] = 0;
             reachedCount = 1;
-            for (int next = 0; next < solid.faces; next++) {
-                if (next >= reachedCount || !canFoldAround(reached[next], m)) {
-                    return false;
-                }
-            }
-            return true;
         }
 
-        private boolean canFoldAround(int place, int m) {
-            for (int side = 0; side < SIDES; side++) {
-                int other = beside[place * SIDES + side];
-                if (other >= 0 && !canFoldTo(other, faceOn[place], imageSide[m * SIDES + side])) {
-                    return false;
-                }
+        private boolean canFoldOver(int place, int side, int m) {
+            int nextPlace = beside[place * SIDES + side];
+            if (nextPlace < 0) {
+                return true;
             }
-            return true;
-        }
-
-        private boolean canFoldTo(int place, int from, int side) {
-            if (faceOn[place] >= 0) {
-                return sheet.fitsBeside(from, side);
+            int from = faceOn[place];
+            int sideThere = imageSide[m * SIDES + side];
+            if (faceOn[nextPlace] >= 0) {
+                return sheet.fitsBeside(from, sideThere);
             }
-            int other = sheet.neighbour(from, side);
+            int other = sheet.neighbour(from, sideThere);
             if (sheet.lies[other]) {
                 return false;
             }
-            sheet.putBeside(from, side);
-            faceOn[place] = other;
-            reached[reachedCount] = place;
+            sheet.putBeside(from, sideThere);
+            faceOn[nextPlace] = other;
+            reached[reachedCount] = nextPlace;
             reachedCount++;
             return true;
         }

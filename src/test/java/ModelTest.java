@@ -2,15 +2,17 @@ import java.math.BigInteger;
 import java.util.ArrayList;
 import java.util.Arrays;
 import java.util.HashMap;
+import java.util.LinkedHashSet;
 import java.util.List;
 import java.util.Map;
+import java.util.Set;
 
 /**
  * Runs of calls, each answered by NetSearch and by a plain model that shares none of its ways:
  * faces and edges are points in space, the search is a recursion, numbers are big.
  */
 public final class ModelTest {
-    private static final int RUNS = 150;
+    private static final int RUNS = 60;
     private static final int CALLS = 512;
     private static int wrong = 0;
     private static long seed = 20261116L;
@@ -190,6 +192,7 @@ public final class ModelTest {
         final List<Face> faces = new ArrayList<>();
         final Map<Integer, Laid> hand = new HashMap<>();
         final List<List<Integer>> shapes = new ArrayList<>();
+        private final Map<Integer, Integer> overEdge = new HashMap<>();
         private int nets;
         private int work;
         private boolean ended;
@@ -227,6 +230,7 @@ public final class ModelTest {
 
         private void anew() {
             faces.clear();
+            overEdge.clear();
             hand.clear();
             nets = 0;
             work = 0;
@@ -292,8 +296,13 @@ public final class ModelTest {
             return over(f, WAYS[e]);
         }
 
-        /** Of the faces at that edge: one that looks into the same empty room, else the other one. */
+        /** Looked up, since the recursion asks for the same edges over and over. */
         private int over(int f, int[] step) {
+            return overEdge.computeIfAbsent(6 * f + wayOf(step), key -> findOver(f, step));
+        }
+
+        /** Of the faces at that edge: one that looks into the same empty room, else the other one. */
+        private int findOver(int f, int[] step) {
             int[] edge = plus(faces.get(f).middle(), step);
             List<Integer> there = new ArrayList<>();
             for (int g = 0; g < faces.size(); g++) {
@@ -585,7 +594,7 @@ public final class ModelTest {
         private boolean wrapsBy(List<Integer> row, int first, int m) {
             Map<List<Integer>, Integer> on = new HashMap<>();
             Map<List<Integer>, Laid> how = new HashMap<>();
-            List<List<Integer>> places = new ArrayList<>();
+            Set<List<Integer>> places = new LinkedHashSet<>();
             int[] zero = image(m, row.get(0) % 32, row.get(0) / 32);
             for (int number : row) {
                 int[] p = image(m, number % 32, number / 32);
@@ -593,7 +602,7 @@ public final class ModelTest {
             }
             on.put(List.of(0, 0), first);
             how.put(List.of(0, 0), firstOf(first));
-            for (int round = 0; round < places.size(); round++) {
+            for (int round = 0; round < places.size() && on.size() < places.size(); round++) {
                 for (List<Integer> p : places) {
                     for (int side = 0; side < 4 && on.containsKey(p); side++) {
                         List<Integer> q = List.of(p.get(0) + TO_X[side], p.get(1) + TO_Y[side]);
@@ -607,7 +616,7 @@ public final class ModelTest {
             return on.values().stream().distinct().count() == faces.size() && allFit(places, on, how);
         }
 
-        private boolean allFit(List<List<Integer>> places, Map<List<Integer>, Integer> on,
+        private boolean allFit(Set<List<Integer>> places, Map<List<Integer>, Integer> on,
                 Map<List<Integer>, Laid> how) {
             for (List<Integer> p : places) {
                 for (int side = 0; side < 4; side++) {
