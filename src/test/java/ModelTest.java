@@ -141,14 +141,14 @@ public final class ModelTest {
         }
     }
 
-    /** A solid is searched, then every shape is tried on it and on others. */
+    /** A solid is searched, then every shape is tried on it and on others; at most 132 calls for each of three. */
     private static void wrappingRun(int run) {
         NetSearch real = new NetSearch();
         Model model = new Model();
         for (int solids = 0; solids < 3 && wrong < 20; solids++) {
             same(run, "clear()", real.clear(), model.clear());
             int cubes = 1 + pick(5);
-            for (int tries = 0; tries < 40 && model.cubes.size() < cubes; tries++) {
+            for (int tries = 0; tries < 20 && model.cubes.size() < cubes; tries++) {
                 joinCube(run, real, model);
             }
             same(run, "trees()", real.trees(), model.trees());
@@ -156,8 +156,10 @@ public final class ModelTest {
                 same(run, "run(500)", real.run(500), model.run(500));
             }
             for (int i = 0; i <= model.shapes.size(); i++) {
-                same(run, "size(" + i + ")", real.size(i), model.size(i));
                 same(run, "wraps(" + i + ")", real.wraps(i), model.wraps(i));
+            }
+            for (int i = pick(8); i <= model.shapes.size(); i += 8) {
+                same(run, "size(" + i + ")", real.size(i), model.size(i));
                 int k = pick(22);
                 same(run, "shape", real.shape(i, k, 0), model.shape(i, k, 0));
                 same(run, "shape", real.shape(i, k, 1), model.shape(i, k, 1));
